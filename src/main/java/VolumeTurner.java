@@ -142,19 +142,19 @@ public final class VolumeTurner {
     }
 
     public int kind() {
-        return standing();
+        return look();
     }
 
     public int fault() {
         // Nothing but a run and format changes an inode volume, so it is always as it was left.
-        return inodes.isThere() ? 0 : soundness();
+        return look() == INODE_VOLUME ? 0 : lastFault;
     }
 
     public int byteAt(int sector, int at) {
         if (!disk.has(sector, at)) {
             return NONE;
         }
-        int kind = standing();
+        int kind = look();
         boolean shown = kind == NO_VOLUME
                 || kind == TABLE_VOLUME && table.shows(sector)
                 || kind == INODE_VOLUME && inodes.shows(sector);
@@ -162,18 +162,18 @@ public final class VolumeTurner {
     }
 
     public int items() throws IllegalStateException {
-        return readsInodes() ? inodes.countIn(here) : tree.countIn(here);
+        return readsInodes(look()) ? inodes.countIn(here) : tree.countIn(here);
     }
 
     public int letter(int k, int i) throws IllegalStateException, IndexOutOfBoundsException {
-        if (readsInodes()) {
+        if (readsInodes(look())) {
             return inodes.nameByte(entryHere(k), i);
         }
         return tree.nameByte(itemHere(k), i);
     }
 
     public long about(int k, int what) throws IllegalStateException, IndexOutOfBoundsException, IllegalArgumentException {
-        boolean inode = readsInodes();
+        boolean inode = readsInodes(look());
         int found = inode ? entryHere(k) : itemHere(k);
         if (what < 0 || what > 5) {
             throw new IllegalArgumentException("nothing to tell");
@@ -182,7 +182,7 @@ public final class VolumeTurner {
     }
 
     public int content(int k, int at) throws IllegalStateException, IndexOutOfBoundsException {
-        if (readsInodes()) {
+        if (readsInodes(look())) {
             return inodes.fileByte(entryHere(k), at);
         }
         int item = itemHere(k);
@@ -193,7 +193,7 @@ public final class VolumeTurner {
     }
 
     public int enter(int k) throws IllegalStateException, IndexOutOfBoundsException, IllegalArgumentException {
-        boolean inode = readsInodes();
+        boolean inode = readsInodes(look());
         int found = inode ? entryHere(k) : itemHere(k);
         if (inode ? !inodes.isDirectory(found) : !tree.isDirectory(found)) {
             throw new IllegalArgumentException("a file");
@@ -203,7 +203,7 @@ public final class VolumeTurner {
     }
 
     public boolean up() throws IllegalStateException {
-        boolean inode = readsInodes();
+        boolean inode = readsInodes(look());
         if (here == 0) {
             return false;
         }
@@ -213,7 +213,7 @@ public final class VolumeTurner {
 
     public int make(boolean directory) throws IllegalStateException, IllegalArgumentException, UnsupportedOperationException {
         int bytes = tape.useUp();
-        wantSoundTable();
+        wantSoundTable(look());
         if (!editor.readName(tape, bytes) || editor.clashes(here)) {
             throw new IllegalArgumentException("no name, or one that is here");
         }
@@ -226,30 +226,34 @@ public final class VolumeTurner {
 
     public int write(int k) throws IllegalStateException, IndexOutOfBoundsException, IllegalArgumentException, UnsupportedOperationException {
         int bytes = tape.useUp();
-        wantSoundTable();
+        wantSoundTable(look());
         int item = fileHere(k);
         int from = lengthen(item, bytes);
+        int place = editor.placeOnRoad(from - 1);
         for (int i = 0; i < bytes; i++) {
-            disk.putOne(editor.placeOnRoad(from + i), tape.one(i));
+            place = editor.placeBehind(place, from + i);
+            disk.putOne(place, tape.one(i));
         }
         return from + bytes;
     }
 
     public int grow(int k, int n, int seed) throws IllegalStateException, IndexOutOfBoundsException, IllegalArgumentException, UnsupportedOperationException {
-        wantSoundTable();
+        wantSoundTable(look());
         int item = fileHere(k);
         if (n < 0 || n > MOST_GROWTH) {
             throw new IllegalArgumentException("no such number of bytes");
         }
         int from = lengthen(item, n);
+        int place = editor.placeOnRoad(from - 1);
         for (int i = 0; i < n; i++) {
-            disk.putOne(editor.placeOnRoad(from + i), seed + i * i + (i >> 8));
+            place = editor.placeBehind(place, from + i);
+            disk.putOne(place, seed + i * i + (i >> 8));
         }
         return from + n;
     }
 
     public int cut(int k, int size) throws IllegalStateException, IndexOutOfBoundsException, IllegalArgumentException {
-        wantSoundTable();
+        wantSoundTable(look());
         int item = fileHere(k);
         if (size < 0 || size > tree.sizeOf(item)) {
             throw new IllegalArgumentException("no such size");
@@ -259,7 +263,7 @@ public final class VolumeTurner {
     }
 
     public void remove(int k) throws IllegalStateException, IndexOutOfBoundsException, IllegalArgumentException {
-        wantSoundTable();
+        wantSoundTable(look());
         int item = itemHere(k);
         if (tree.countIn(item) > 0) {
             throw new IllegalArgumentException("a directory with items");
@@ -269,7 +273,7 @@ public final class VolumeTurner {
     }
 
     public void stamp(int k, int what, int day, int time) throws IllegalStateException, IndexOutOfBoundsException, IllegalArgumentException {
-        wantSoundTable();
+        wantSoundTable(look());
         int item = itemHere(k);
         int at = tree.spotOf(item);
         if (!Days.wouldFit(disk, at, what, day, time)) {
@@ -280,10 +284,10 @@ public final class VolumeTurner {
     }
 
     public int plan(int P, int what) {
-        if (what < 0 || what > 6 || standing() != TABLE_VOLUME) {
+        if (what < 0 || what > 6 || look() != TABLE_VOLUME) {
             return NONE;
         }
-        int refusal = planner.refusal(P, soundness());
+        int refusal = planner.refusal(P, lastFault);
         if (what == 0) {
             return refusal;
         }
@@ -291,7 +295,7 @@ public final class VolumeTurner {
     }
 
     public int target(int P, int cluster) {
-        if (standing() != TABLE_VOLUME || planner.refusal(P, soundness()) != 0) {
+        if (look() != TABLE_VOLUME || planner.refusal(P, lastFault) != 0) {
             return NONE;
         }
         return table.hasCluster(cluster) ? table.goalOf(cluster) : NONE;
@@ -310,13 +314,14 @@ public final class VolumeTurner {
     public int run(int ask, int P) throws IllegalStateException, IllegalArgumentException {
         int told = fails;
         fails = 0;
-        if (standing() == NO_VOLUME) {
+        int kind = look();
+        if (kind == NO_VOLUME) {
             throw new IllegalStateException("no volume");
         }
         if (ask != FINISH && ask != BACK) {
             throw new IllegalArgumentException("neither finish nor back");
         }
-        int size = inodes.isThere() ? inodes.groupSize() : P;
+        int size = kind == INODE_VOLUME ? inodes.groupSize() : P;
         for (int i = 0; i < told && i < MOST_FAILS; i++) {
             disk.supply(failWrites[i]);
             turner.turn(failAsks[i], size);
@@ -333,33 +338,28 @@ public final class VolumeTurner {
         stale = true;
     }
 
-    /** The table volume's fault; its tree is read anew if the disk has changed. */
-    private int soundness() {
+    /** Which volume there is; a table volume's tree is read anew if the disk has changed. */
+    private int look() {
+        if (inodes.isThere()) {
+            return INODE_VOLUME;
+        }
         if (stale) {
             lastFault = reader.scan(false);
             stale = false;
         }
-        return lastFault;
-    }
-
-    private int standing() {
-        if (inodes.isThere()) {
-            return INODE_VOLUME;
-        }
-        return soundness() == 1 ? NO_VOLUME : TABLE_VOLUME;
+        return lastFault == 1 ? NO_VOLUME : TABLE_VOLUME;
     }
 
     /** Whether the tree to read is that of an inode volume. */
-    private boolean readsInodes() {
-        if (inodes.isThere()) {
-            return true;
+    private boolean readsInodes(int kind) {
+        if (kind != INODE_VOLUME && lastFault != 0) {
+            throw new IllegalStateException("no tree");
         }
-        wantSoundTable();
-        return false;
+        return kind == INODE_VOLUME;
     }
 
-    private void wantSoundTable() {
-        if (inodes.isThere() || soundness() != 0) {
+    private void wantSoundTable(int kind) {
+        if (kind != TABLE_VOLUME || lastFault != 0) {
             throw new IllegalStateException("no sound table volume");
         }
     }
@@ -453,13 +453,19 @@ public final class VolumeTurner {
         }
 
         void putTwo(int at, int value) {
-            putOne(at, value);
-            putOne(at + 1, value >> 8);
+            if (at >= 0 && at <= bytes.length - 2) {
+                bytes[at] = (byte) value;
+                bytes[at + 1] = (byte) (value >> 8);
+            }
         }
 
         void putFour(int at, int value) {
-            putTwo(at, value);
-            putTwo(at + 2, value >> 16);
+            if (at >= 0 && at <= bytes.length - 4) {
+                bytes[at] = (byte) value;
+                bytes[at + 1] = (byte) (value >> 8);
+                bytes[at + 2] = (byte) (value >> 16);
+                bytes[at + 3] = (byte) (value >> 24);
+            }
         }
 
         void zero(int from, int count) {
@@ -623,18 +629,15 @@ public final class VolumeTurner {
 
         static final int FIRST = 33;
 
-        private static boolean isLeap(int year) {
-            return year % 4 == 0 && (year % 100 != 0 || year % 400 == 0);
-        }
-
         private static boolean isDay(int day) {
             int month = day >> 5 & 15;
             if (day < 0 || day > 65535 || month < 1 || month > 12) {
                 return false;
             }
-            int leap = month == 2 && isLeap(1980 + (day >> 9)) ? 1 : 0;
-            int most = BEFORE_MONTH[month] - BEFORE_MONTH[month - 1] + leap;
-            return (day & 31) >= 1 && (day & 31) <= most;
+            int year = 1980 + (day >> 9);
+            boolean leap = year % 4 == 0 && (year % 100 != 0 || year % 400 == 0);
+            int last = BEFORE_MONTH[month] - BEFORE_MONTH[month - 1] + (leap && month == 2 ? 1 : 0);
+            return (day & 31) >= 1 && (day & 31) <= last;
         }
 
         private static boolean isTime(int time) {
@@ -695,10 +698,9 @@ public final class VolumeTurner {
             if (month < 1 || month > 12) {
                 return 0;
             }
-            int past = year - 1;
-            int leaps = past / 4 - past / 100 + past / 400 - LEAPS_BEFORE_1970;
-            int thisLeap = month > 2 && isLeap(year) ? 1 : 0;
-            return (year - 1970) * 365 + leaps + BEFORE_MONTH[month - 1] + thisLeap + (day & 31) - 1;
+            int februaries = month > 2 ? year : year - 1;
+            int leaps = februaries / 4 - februaries / 100 + februaries / 400 - LEAPS_BEFORE_1970;
+            return (year - 1970) * 365 + leaps + BEFORE_MONTH[month - 1] + (day & 31) - 1;
         }
     }
 
@@ -718,17 +720,11 @@ public final class VolumeTurner {
         private final int[] next;
         /** Where a cluster moves by the plan, 0 if it stays. */
         private final int[] goal;
-        /** Whether the clusters that move stand at their goals. */
-        private boolean moved = false;
 
         Table(Disk disk) {
             this.disk = disk;
             this.next = new int[disk.sectors / 2 + 2];
             this.goal = new int[disk.sectors / 2 + 2];
-        }
-
-        void setMoved(boolean moved) {
-            this.moved = moved;
         }
 
         private static boolean numbersFit(int cluster, int before, int copies, int length) {
@@ -843,28 +839,31 @@ public final class VolumeTurner {
             return c >= 2 && c < clusters + 2 && c < next.length;
         }
 
+        /** A cluster's entry, 0 also for what is no cluster. */
         int nextOf(int c) {
-            return hasCluster(c) ? next[c] : 0;
+            return c >= 2 && c < clusters + 2 && c < next.length ? next[c] : 0;
         }
 
         void setGoal(int c, int to) {
-            if (hasCluster(c)) {
+            if (c >= 0 && c < goal.length) {
                 goal[c] = to;
             }
         }
 
         int goalOf(int c) {
-            return hasCluster(c) ? goal[c] : 0;
+            return c >= 0 && c < goal.length ? goal[c] : 0;
         }
 
         boolean isFree(int c) {
-            return hasCluster(c) && next[c] == 0;
+            return c >= 2 && c < clusters + 2 && c < next.length && next[c] == 0;
         }
 
         /** Whether a sector is shown: none of a free cluster or behind the last one. */
         boolean shows(int sector) {
-            int c = Math.floorDiv(sector - start, cluster < 1 ? 1 : cluster) + 2;
-            return sector < start || hasCluster(c) && next[c] != 0;
+            if (sector < start || cluster < 1) {
+                return true;
+            }
+            return nextOf((sector - start) / cluster + 2) != 0;
         }
 
         int clusterBytes() {
@@ -884,13 +883,9 @@ public final class VolumeTurner {
             return place(road[s / each]) + s % each * SLOT;
         }
 
-        /** The first byte of a cluster, wherever it stands. */
+        /** The first byte of a cluster. */
         int place(int c) {
-            if (!hasCluster(c)) {
-                return 0;
-            }
-            int stands = moved && goal[c] != 0 ? goal[c] : c;
-            return (start + (stands - 2) * cluster) * SECTOR;
+            return (start + (c - 2) * cluster) * SECTOR;
         }
 
         /** A sound chain's clusters come to a row: how many. */
@@ -956,8 +951,9 @@ public final class VolumeTurner {
         private int[] nameAt = new int[64];
         private int[] nameLength = new int[64];
         private int[] nameBytes = new int[64];
-        /** Where an owner's blocks begin in the row of those for what is built. */
+        /** Where an item's blocks begin in the row of those for what is built; how many are no indirect ones. */
         private int[] built = new int[64];
+        private int[] builtBlocks = new int[64];
         private int[] pool = new int[1024];
         private int pooled = 0;
 
@@ -981,6 +977,7 @@ public final class VolumeTurner {
             kids[i] = 0;
             kidCount[i] = 0;
             built[i] = 0;
+            builtBlocks[i] = 0;
             nameAt[i] = pooled;
             nameLength[i] = 0;
             nameBytes[i] = 0;
@@ -1003,9 +1000,10 @@ public final class VolumeTurner {
             }
         }
 
-        void setBuilt(int i, int room) {
+        void setBuilt(int i, int room, int blocks) {
             if (has(i)) {
                 built[i] = room;
+                builtBlocks[i] = blocks;
             }
         }
 
@@ -1023,6 +1021,7 @@ public final class VolumeTurner {
             nameLength = Arrays.copyOf(nameLength, n);
             nameBytes = Arrays.copyOf(nameBytes, n);
             built = Arrays.copyOf(built, n);
+            builtBlocks = Arrays.copyOf(builtBlocks, n);
         }
 
         void nameLast(int[] units, int n) {
@@ -1075,6 +1074,10 @@ public final class VolumeTurner {
 
         int builtOf(int i) {
             return has(i) ? built[i] : 0;
+        }
+
+        int builtBlocksOf(int i) {
+            return has(i) ? builtBlocks[i] : 0;
         }
 
         int slotOf(int i) {
@@ -1178,23 +1181,18 @@ public final class VolumeTurner {
 
         /** The fault, 0 if there is none; moved tells whether clusters that move stand at their goals. */
         int scan(boolean moved) {
-            table.setMoved(moved);
-            int fault = findFault();
-            table.setMoved(false);
-            return fault;
-        }
-
-        private int findFault() {
             if (!table.read()) {
                 return 1;
             }
             if (!table.entriesFit()) {
                 return 2;
             }
-            Arrays.fill(taken, false);
+            for (int c = 0; c < taken.length; c++) {
+                taken[c] = false;
+            }
             tree.startWith(table.root);
             for (int d = 0; d < MOST_ITEMS && d < tree.count; d++) {
-                int fault = tree.isDirectory(d) ? readDirectory(d) : 0;
+                int fault = tree.isDirectory(d) ? readDirectory(d, moved) : 0;
                 if (fault != 0) {
                     return fault;
                 }
@@ -1228,41 +1226,38 @@ public final class VolumeTurner {
             return NONE;
         }
 
-        private int readDirectory(int d) {
+        private int readDirectory(int d, boolean moved) {
             int length = follow(tree.firstOf(d), road);
             if (length == NONE) {
                 return 3;
             }
+            for (int i = 0; moved && i < length; i++) {
+                road[i] = table.goalOf(road[i]) == 0 ? road[i] : table.goalOf(road[i]);
+            }
             tree.beginKids(d);
             parts = 0;
-            int seen = 0;
             int all = length * table.slotsOfCluster();
-            for (int s = 0; s < all; s++) {
+            int s = 0;
+            for (; s < all; s++) {
                 int at = table.slotPlace(road, s);
+                int fault = 0;
                 if (disk.one(at) == 0) {
                     break;
+                } else if (d != 0 && s < 2) {
+                    fault = isDots(d, s + 1, at) ? 0 : 4;
+                } else if (disk.one(at) == EMPTY) {
+                    fault = parts == 0 ? 0 : 4;
+                } else if ((disk.one(at + 11) & 63) == PART) {
+                    fault = readPart(at) ? 0 : 4;
+                } else {
+                    fault = readEntry(d, s, at);
                 }
-                int fault = readSlot(d, s, at);
                 if (fault != 0) {
                     return fault;
                 }
-                seen++;
             }
             tree.endKids(d);
-            return parts != 0 || d != 0 && seen < 2 ? 4 : 0;
-        }
-
-        private int readSlot(int d, int s, int at) {
-            if (d != 0 && s < 2) {
-                return isDots(d, s + 1, at) ? 0 : 4;
-            }
-            if (disk.one(at) == EMPTY) {
-                return parts == 0 ? 0 : 4;
-            }
-            if ((disk.one(at + 11) & 63) == PART) {
-                return readPart(at) ? 0 : 4;
-            }
-            return readEntry(d, s, at);
+            return parts != 0 || d != 0 && s < 2 ? 4 : 0;
         }
 
         private boolean isDots(int d, int points, int at) {
@@ -1708,6 +1703,11 @@ public final class VolumeTurner {
             return table.place(road[i / each]) + i % each;
         }
 
+        /** Where byte i of the file on the road stands, place being where the one before it does. */
+        int placeBehind(int place, int i) {
+            return i % SECTOR == 0 ? placeOnRoad(i) : place + 1;
+        }
+
         /** Where a byte of a file stands. */
         int placeOf(int item, int i) {
             roadLength = table.road(tree.firstOf(item), road);
@@ -1881,7 +1881,9 @@ public final class VolumeTurner {
             }
             inodes = inodesOfGroup;
             int shelves = inodes / 8;
-            Arrays.fill(fixed, false);
+            for (int b = 0; b < blocks; b++) {
+                fixed[b] = false;
+            }
             for (int g = 0; g < groups; g++) {
                 int least = g == 0 ? table.start / 2 + shelves + 9 : shelves + 12;
                 if (blocksOf(g) < least || !fix(firstBlock(g), 2) || !fix(mapBlock(g), 2 + shelves)) {
@@ -1942,7 +1944,9 @@ public final class VolumeTurner {
         /** Finds the goals of clusters that move, and the blocks that are left for building. */
         private boolean aim() {
             int behind = Math.min(table.clusters + 2, aimedAt.length);
-            Arrays.fill(aimedAt, false);
+            for (int c = 0; c < aimedAt.length; c++) {
+                aimedAt[c] = false;
+            }
             moves = 0;
             int to = 2;
             for (int c = 2; c < behind; c++) {
@@ -1988,18 +1992,18 @@ public final class VolumeTurner {
 
         /** Gives what is built its blocks, in the document's order; false if there are too few. */
         boolean assign() {
-            listRecord();
+            gather(RECORD);
             built = 3 + indirects(listed);
             for (int i = 0; i < tree.count; i++) {
                 if (tree.isDirectory(i)) {
-                    tree.setBuilt(i, built);
                     int own = blocksBuilt(i);
+                    tree.setBuilt(i, built, own);
                     built += own + indirects(own);
                 }
             }
             for (int i = 0; i < tree.count; i++) {
                 if (!tree.isDirectory(i)) {
-                    tree.setBuilt(i, built);
+                    tree.setBuilt(i, built, 0);
                     built += indirects((tree.sizeOf(i) + BLOCK - 1) / BLOCK);
                 }
             }
@@ -2030,15 +2034,16 @@ public final class VolumeTurner {
             return RECORD_NAME.length();
         }
 
-        int entryLength(int directory, int entry) {
-            return (8 + nameSize(directory, entry) + 3) / 4 * 4;
+        /** How long an entry is whose name has so many bytes. */
+        static int entryLength(int nameSize) {
+            return (8 + nameSize + 3) / 4 * 4;
         }
 
         private int blocksBuilt(int directory) {
             int n = 1;
             int at = 0;
             for (int e = 0; e < entriesOf(directory); e++) {
-                int length = entryLength(directory, e);
+                int length = entryLength(nameSize(directory, e));
                 if (at + length > BLOCK) {
                     n++;
                     at = 0;
@@ -2050,32 +2055,22 @@ public final class VolumeTurner {
 
         /** The blocks of the record, a directory or a file come to the list. */
         void gather(int owner) {
-            if (owner == RECORD) {
-                listRecord();
-            } else if (tree.isDirectory(owner)) {
-                listed = 0;
-                int own = blocksBuilt(owner);
-                for (int j = 0; j < own; j++) {
-                    addToList(room(tree.builtOf(owner) + j));
-                }
-            } else {
-                listed = 0;
-                listChain(tree.firstOf(owner), (tree.sizeOf(owner) + BLOCK - 1) / BLOCK);
-            }
-        }
-
-        private void listRecord() {
             listed = 0;
-            for (int j = 0; j < 3; j++) {
-                addToList(room(j));
+            int own = owner == RECORD ? 3 : tree.builtBlocksOf(owner);
+            int from = owner == RECORD ? 0 : tree.builtOf(owner);
+            for (int j = 0; j < own; j++) {
+                addToList(room(from + j));
             }
-            for (int b = 3; b < table.start / 2; b++) {
+            for (int b = 3; owner == RECORD && b < table.start / 2; b++) {
                 addToList(b);
             }
-            for (int i = 0; i < tree.count; i++) {
+            for (int i = 0; owner == RECORD && i < tree.count; i++) {
                 if (tree.isDirectory(i)) {
                     listChain(tree.firstOf(i), list.length);
                 }
+            }
+            if (owner != RECORD && !tree.isDirectory(owner)) {
+                listChain(tree.firstOf(owner), (tree.sizeOf(owner) + BLOCK - 1) / BLOCK);
             }
         }
 
@@ -2111,7 +2106,9 @@ public final class VolumeTurner {
         }
 
         void markUsed() {
-            System.arraycopy(fixed, 0, used, 0, blocks);
+            for (int b = 0; b < blocks; b++) {
+                used[b] = fixed[b];
+            }
             for (int owner = RECORD; owner < tree.count; owner++) {
                 gather(owner);
                 for (int j = 0; j < listed; j++) {
@@ -2280,13 +2277,19 @@ public final class VolumeTurner {
         }
 
         private void putTwo(int at, int value) {
-            putOne(at, value);
-            putOne(at + 1, value >> 8);
+            if (at >= 0 && at <= BLOCK - 2) {
+                block[at] = (byte) value;
+                block[at + 1] = (byte) (value >> 8);
+            }
         }
 
         private void putFour(int at, int value) {
-            putTwo(at, value);
-            putTwo(at + 2, value >> 16);
+            if (at >= 0 && at <= BLOCK - 4) {
+                block[at] = (byte) value;
+                block[at + 1] = (byte) (value >> 8);
+                block[at + 2] = (byte) (value >> 16);
+                block[at + 3] = (byte) (value >> 24);
+            }
         }
 
         private void buildDirectory(int d) {
@@ -2295,7 +2298,7 @@ public final class VolumeTurner {
             int last = 0;
             empty();
             for (int e = 0; e < plan.entriesOf(d); e++) {
-                int length = plan.entryLength(d, e);
+                int length = Plan.entryLength(plan.nameSize(d, e));
                 if (at + length > BLOCK) {
                     putTwo(last + 4, BLOCK - last);
                     storeBlock(plan.room(room));

@@ -140,6 +140,7 @@ public final class ChangeTest {
         Due.is("items", p.items(), "12");
         p.make(long255, false);
         Due.is("items", p.items(), "13");
+        Due.is("the longest name again", p.make(long255.toUpperCase(), false), "throws.IllegalArgumentException");
         p.wholeDisk();
     }
 

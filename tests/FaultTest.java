@@ -184,8 +184,24 @@ public final class FaultTest {
         due(p, "4", ROOT, 13, 1);
         due(p, "4", ROOT, 5 * 32 + 11, 8);
         due(p, "4", cluster(5), 2 * 32 + 11, 8, cluster(5), 2 * 32 + 26, 0, cluster(5), 2 * 32 + 29, 0);
+        labelsAlone();
         // A label does not count as a name: E becomes LABEL.
         due(p, "0", ROOT, 161, 'A', ROOT, 162, 'B', ROOT, 163, 'E', ROOT, 164, 'L', ROOT, 160, 'L');
+    }
+
+    /** Without another label: in the root with parts, or without, or in a directory. */
+    private static void labelsAlone() {
+        Pair p = new Pair("labels alone", 400);
+        p.format(2, 8, 2, 0);
+        p.make("long name", false);
+        p.make("S", false);
+        p.make("D", true);
+        p.enter(2);
+        p.make("F", false);
+        due(p, "4", ROOT, 32 + 11, 8);
+        due(p, "0", ROOT, 64 + 11, 8);
+        due(p, "4", ROOT, 96 + 11, 8);
+        due(p, "4", cluster(3), 64 + 11, 8);
     }
 
     private static void day(Pair p, String fault, int at, int day) {

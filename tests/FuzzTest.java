@@ -12,12 +12,13 @@ public final class FuzzTest {
 
     private final Random random;
     private final Pair p;
-    private final List<int[]> poked = new ArrayList<>();
-    private int calls = 0;
+    /** Whether the volume shall be one that can be turned. */
+    private final boolean turnable;
 
     private FuzzTest(long seed) {
         random = new Random(seed);
         p = new Pair("seed " + seed, SECTORS[random.nextInt(SECTORS.length)]);
+        turnable = random.nextInt(2) == 0;
     }
 
     public static void main(String[] args) {
@@ -37,7 +38,7 @@ public final class FuzzTest {
         int style = below(4);
         int most = 60 + below(300);
         format();
-        for (calls = 0; calls < most && Pair.wrong == 0; calls++) {
+        for (int calls = 0; calls < most && Pair.wrong == 0; calls++) {
             step(style);
             if (below(12) == 0) {
                 p.wholeDisk();
@@ -56,7 +57,9 @@ public final class FuzzTest {
         int v = below(20) == 0 ? below(80) : below(3) == 0 ? 8 + below(57) : 8 + below(20);
         int y = below(20) == 0 ? below(4) : 1 + below(2);
         p.format(c, v, y, random.nextInt());
-        poked.clear();
+        if (turnable && p.o.kind() == 1 && new Oracle.Volume(p.o.disk, p.o.n).a % 2 != 0) {
+            p.format(c, v == 64 ? 63 : v + 1, y, random.nextInt());
+        }
     }
 
     private int anItem() {
@@ -90,11 +93,11 @@ public final class FuzzTest {
             }
             stem = b.toString();
         }
-        return stem;
+        return turnable && Oracle.upper(stem).equals(".TURNED") ? "turned" : stem;
     }
 
     private int aDay() {
-        switch (below(6)) {
+        switch (turnable ? 3 : below(6)) {
             case 0:
                 return 0;
             case 1:

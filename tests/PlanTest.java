@@ -11,6 +11,8 @@ public final class PlanTest {
         names();
         times();
         fullDisk();
+        noGoals();
+        fullBlocks();
         order();
         indirect();
         Due.finish();
@@ -172,6 +174,8 @@ public final class PlanTest {
         p.remove(3);
         p.make(".turned1", false);
         p.make("TURNED", false);
+        p.make(".TURNEE", false);
+        p.make("-TURNED", false);
         Due.is("others", p.plan(128, 0), "0");
         p.run(0, 128);
         p.wholeDisk();
@@ -223,6 +227,52 @@ public final class PlanTest {
             }
             Due.is("refused", refused > 0, true);
             p.run(0, 128);
+            p.wholeDisk();
+        }
+    }
+
+    /** Free clusters that have fixed blocks are no goals, though what is built has room in them. */
+    private static void noGoals() {
+        Pair p = new Pair("no goals", 1024);
+        p.format(8, 9, 1, 0);
+        p.make("A", false);
+        Due.is("plan", p.plan(64, 0), "0");
+        String[] names = {"B", "C", "D", "E", "F", "G", "H"};
+        // Of clusters of four blocks from block 5 on, 18 has the blocks 69 to 72: an inode block and three others.
+        for (int i = 0; i < names.length; i++) {
+            p.make(names[i], false);
+        }
+        int free = 125;
+        for (int c = 3; c <= free; c++) {
+            int group = (c - 2) / 16;
+            boolean fixed = (c - 2) % 16 == 0 && group >= 1 && group <= 7;
+            p.grow(fixed ? group : 0, 4096, c);
+        }
+        for (int k = 7; k >= 1; k--) {
+            Due.is("plan", p.plan(64, 0), "15");
+            p.remove(k);
+        }
+        Due.is("rooms, but no goals", p.plan(64, 0), "15");
+        p.target(64, 2);
+        p.cut(0, 4096 * 100);
+        p.plan(64, 0);
+        p.run(0, 64);
+        p.wholeDisk();
+    }
+
+    /** Blocks of a directory that its entries fill to the last byte. */
+    private static void fullBlocks() {
+        for (int length = 1; length <= 16; length += 3) {
+            Pair p = new Pair("full blocks " + length, 1024);
+            p.format(4, 8, 2, 0);
+            p.make("d", true);
+            p.enter(0);
+            for (int i = 0; i < 200; i++) {
+                p.make(("" + (100 + i) + "ABCDEFGHIJKLMNOPQ").substring(0, 3 + length), false);
+                p.plan(256, 5);
+            }
+            Due.is("plan", p.plan(256, 0), "0");
+            p.run(0, 256);
             p.wholeDisk();
         }
     }

@@ -151,6 +151,20 @@ public final class TreeTest {
         Due.is("lowest 32 bits", x.about(0, 4), 4354819198L - 4294967296L);
         x.stamp(0, 2, 120 * 512 + 3 * 32 + 1, 0);
         Due.is("1 March 2100", x.about(0, 4), 4107542400L);
+        everyMonth();
+    }
+
+    private static void everyMonth() {
+        Pair p = new Pair("every month", 300);
+        p.format(4, 8, 1, 0);
+        p.make("F", false);
+        for (int month = 0; month < 128 * 12; month++) {
+            for (int day : new int[] {1, 28, 29}) {
+                p.stamp(0, 2, month / 12 * 512 + (month % 12 + 1) * 32 + day, 0);
+                p.about(0, 4);
+            }
+            p.log.clear();
+        }
     }
 
     private static void contents() {

@@ -44,6 +44,8 @@ public final class VolumeTurner {
     private static final int ABOUT_MADE = 3;
     private static final int ABOUT_WRITTEN = 4;
     private static final long MOST_SECONDS = 4294967295L;
+    /** What makes a number of four bytes one without a sign. */
+    private static final long FOUR_BYTES = 4294967295L;
 
     private static final int SUPER_SECTOR = 2;
     private static final int MARK_SECTOR = 7;
@@ -406,7 +408,7 @@ public final class VolumeTurner {
             case 5:
                 return tree.sizeOf(item);
             default:
-                return Days.seconds(disk, tree.spotOf(item), what) & MOST_SECONDS;
+                return Days.seconds(disk, tree.spotOf(item), what) & FOUR_BYTES;
         }
     }
 
@@ -1319,7 +1321,7 @@ public final class VolumeTurner {
             if (twin) {
                 return 5;
             }
-            return followFile(i, disk.four(at + 28) & MOST_SECONDS) ? 0 : 3;
+            return followFile(i, disk.four(at + 28) & FOUR_BYTES) ? 0 : 3;
         }
 
         private boolean bitsFit(int at, int bits) {
@@ -1773,11 +1775,11 @@ public final class VolumeTurner {
         private final Table table;
         private final Tree tree;
         final int blocks;
-        final boolean[] fixed;
-        final boolean[] used;
+        private final boolean[] fixed;
+        private final boolean[] used;
         private final boolean[] aimedAt;
         /** The blocks for what is built, lowest first; owners have theirs in it one behind another. */
-        final int[] rooms;
+        private final int[] rooms;
         private int roomCount = 0;
         /** The blocks of one owner, without the indirect ones, as gather() found them. */
         final int[] list;
@@ -2532,6 +2534,7 @@ public final class VolumeTurner {
         private static final int LEAST_ENTRY = 12;
 
         private final Disk disk;
+        private int seen = 0;
 
         Inodes(Disk disk) {
             this.disk = disk;
@@ -2596,11 +2599,11 @@ public final class VolumeTurner {
             return here == 0 ? ROOT_INODE : here;
         }
 
-        /** Where entry k of a directory ("." is 0) stands, or NONE. */
+        /** Where entry k of a directory ("." is 0) stands; NONE, and all are counted, if there is none such. */
         int findEntry(int here, int k) {
             int place = inodePlace(directoryInode(here));
             int blocks = disk.four(place + 4) / BLOCK;
-            int seen = 0;
+            seen = 0;
             for (int j = 0; j < blocks; j++) {
                 int from = blockOf(place, j) * BLOCK;
                 for (int at = 0; at < BLOCK; at += Math.max(disk.two(from + at + 4), LEAST_ENTRY)) {
@@ -2615,15 +2618,7 @@ public final class VolumeTurner {
 
         /** How many items a directory has. */
         int countIn(int here) {
-            int place = inodePlace(directoryInode(here));
-            int blocks = disk.four(place + 4) / BLOCK;
-            int seen = 0;
-            for (int j = 0; j < blocks; j++) {
-                int from = blockOf(place, j) * BLOCK;
-                for (int at = 0; at < BLOCK; at += Math.max(disk.two(from + at + 4), LEAST_ENTRY)) {
-                    seen++;
-                }
-            }
+            findEntry(here, NONE);
             return seen - 2;
         }
 
@@ -2653,9 +2648,10 @@ public final class VolumeTurner {
                 case 1:
                     return (disk.two(place) & 128) == 0 ? 1 : 0;
                 case 5:
-                    return disk.four(place + 4) & MOST_SECONDS;
+                    return disk.four(place + 4) & FOUR_BYTES;
                 default:
-                    return disk.four(place + 4 * what) & MOST_SECONDS;
+                    // READ, MADE and WRITTEN, asked for by 2, 3 and 4, stand at 8, 12 and 16.
+                    return disk.four(place + 4 * what) & FOUR_BYTES;
             }
         }
 

@@ -38,6 +38,11 @@ final class Due {
         is(what, Pair.outcome(call), "throws.UnsupportedOperationException");
     }
 
+    /** How many were not as due so far. */
+    static int wrong() {
+        return wrong;
+    }
+
     static void finish() {
         System.out.println(checked + " answers, " + wrong + " not as due");
         if (wrong != 0 || Pair.wrong != 0) {

@@ -536,6 +536,10 @@ final class CallEdges {
             Due.is("bit 27 does", v.byteAt(12, 0), 0);
             v.poke(8, 4 * 124, 255);
             Due.is("the last cluster", v.byteAt(255, 511), 0);
+            v.pokeNumber(8, 4 * 2, 4, 0);
+            Due.is("the first cluster, if it is free", v.byteAt(10, 0), -1);
+            Due.is("its last byte", v.byteAt(11, 511), -1);
+            Due.is("before it", v.byteAt(9, 511), 0);
             v.poke(0, 510, 0);
             Due.is("without a volume all are shown", v.byteAt(14, 0), 0);
         });
@@ -697,6 +701,17 @@ final class CallEdges {
             Due.is("the last time", v.about(0, 4), 4354819198L - 4294967296L);
             v.stamp(0, 2, 33, 0);
             Due.is("the first time", v.about(0, 4), 315532800L);
+        });
+        Sentence.holds(12, "(with leap years as in use: by 4, not by 100, but by 400)", () -> {
+            Counted v = withFile();
+            // Year, month, day, and the days from 1 January 1970 on.
+            int[][] all = {{1980, 2, 29, 3711}, {1980, 3, 1, 3712}, {1980, 12, 31, 4017}, {1981, 1, 1, 4018}, {1981, 2, 28, 4076},
+                {1981, 3, 1, 4077}, {2000, 2, 29, 11016}, {2000, 3, 1, 11017}, {2000, 12, 31, 11322}, {2001, 1, 1, 11323}, {2001, 3, 1, 11382},
+                {2100, 2, 28, 47540}, {2100, 3, 1, 47541}, {2101, 1, 1, 47847}, {2104, 2, 29, 49001}, {2104, 3, 1, 49002}};
+            for (int[] x : all) {
+                v.stamp(0, 2, 512 * (x[0] - 1980) + 32 * x[1] + x[2], 0);
+                Due.is(x[0] + "-" + x[1] + "-" + x[2], v.about(0, 4), 86400L * x[3]);
+            }
         });
         Sentence.holds(12, "5 its size (of a directory 0 in a table volume).", () -> {
             Counted v = new Counted(400);

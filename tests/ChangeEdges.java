@@ -95,9 +95,21 @@ final class ChangeEdges {
             v.grow(2, 2048, 0);
             Due.is("4, which became free", v.number(ROOT, 64 + 26, 2), 4);
             Due.is("then 6", v.number(TABLE, 4 * 4, 4), 6);
+            Due.is("the last byte in 4", v.content(2, 1023), 1023 * 1023 + 3 & 255);
+            Due.is("the first byte in 6", v.content(2, 1024), 4);
+            Due.is("it stands there", v.byteAt(18, 1), 1025 * 1025 + 4 & 255);
+            Due.is("the only byte in 5", v.content(1, 0), 0);
             v.grow(1, 119 * 1024 - 1, 0);
             Due.is("the last one", v.number(TABLE, 4 * 124, 4), END);
             Due.is("the one before it", v.number(TABLE, 4 * 123, 4), 124);
+            // The root is the last cluster now, so that 2 is free.
+            Counted w = empty();
+            w.poke(0, 44, 124);
+            w.pokeNumber(TABLE, 4 * 2, 4, 0);
+            w.pokeNumber(TABLE, 4 * 124, 4, END);
+            w.file("F");
+            Due.is("all of them", w.grow(0, ALL_BYTES, 0), ALL_BYTES);
+            Due.is("from 2 on", w.number(254, 26, 2), 2);
         });
         Sentence.holds(18, "one that is taken is filled with 0 (tables are changed alike; the sectors 1 and 6 are never changed).", () -> {
             Counted v = new Counted(256);
@@ -147,9 +159,28 @@ final class ChangeEdges {
             Due.is("behind what was added, too", v.byteAt(12, 11), 121);
             Due.is("at 12", v.byteAt(ROOT, 12), 88);
             Due.is("WRITTEN", v.number(ROOT, 22, 4), DAY * 65536L + 5);
+            v.text("x");
+            v.write(0);
+            Due.is("behind what was written, too", v.byteAt(12, 12), 144);
             v.remove(0);
-            Due.is("of a slot that is empty", v.number(ROOT, 28, 4), 11);
+            Due.is("of a slot that is empty", v.number(ROOT, 28, 4), 12);
             Due.is("and its name", v.textAt(ROOT, 1, 10), "0         ");
+        });
+        Sentence.holds(18, "Bytes that are not told to change stay (WRITTEN too).", () -> {
+            Counted v = withFile();
+            v.poke(ROOT, 12, 88);
+            v.stamp(0, 0, DAY, 77);
+            v.stamp(0, 1, DAY, 0);
+            v.stamp(0, 2, DAY, 78);
+            v.stamp(0, 3, 0, 199);
+            String before = v.textAt(ROOT, 0, 26);
+            v.grow(0, 1, 0);
+            Due.is("the first byte of a file", v.textAt(ROOT, 0, 26), before);
+            v.cut(0, 0);
+            Due.is("without it", v.textAt(ROOT, 0, 26), before);
+            v.text("x");
+            v.write(0);
+            Due.is("written", v.textAt(ROOT, 0, 26), before);
         });
     }
 
@@ -172,6 +203,15 @@ final class ChangeEdges {
             Due.is("one slot: behind all", v.file("MORE"), 10);
             Due.is("its entry", v.textAt(ROOT, 14 * 32, 4), "MORE");
             Due.is("behind it", v.byteAt(ROOT, 15 * 32), 0);
+            // Slots that are not looked at may have anything in them.
+            Counted w = empty();
+            for (int s = 1; s < 8; s++) {
+                w.poke(ROOT, 32 * s, 65);
+            }
+            Due.is("five slots", w.file("forty units are as many as this one has!"), 0);
+            Due.is("its first part", w.byteAt(ROOT, 0), 64 + 4);
+            Due.is("its entry", w.byteAt(ROOT, 4 * 32), 'F');
+            Due.is("items", w.items(), 1);
         });
         Sentence.holds(16, "if there are none, clusters are added to the chain until there are.", () -> {
             Counted v = withFiles(31);
@@ -190,6 +230,12 @@ final class ChangeEdges {
             Due.is("the only one", w.number(TABLE, 4 * 3, 4), END);
             Due.is("its first part", w.byteAt(12, 0), 64 + 20);
             Due.is("fault", w.fault(), 0);
+            Counted t = withFiles(20);
+            Due.is("twelve slots, and nine new ones", t.file("n".repeat(255)), 20);
+            Due.is("one cluster more", t.number(TABLE, 4 * 2, 4), 3);
+            Due.is("the only one", t.number(TABLE, 4 * 3, 4), END);
+            Due.is("its first part", t.byteAt(11, 4 * 32), 64 + 20);
+            Due.is("its entry", t.byteAt(12, 8 * 32), 'N');
             Counted u = withFiles(32);
             u.remove(31);
             u.remove(12);
@@ -243,6 +289,13 @@ final class ChangeEdges {
             Due.is("slot 32", v.byteAt(14, 0), 0);
             Due.is("the file's first byte", v.content(0, 0), 0);
             Due.is("fault", v.fault(), 0);
+            // Behind the last slot of the chain nothing becomes 0, whatever was looked at before.
+            Counted w = withFiles(31);
+            w.grow(0, 2048, 7);
+            Due.is("a byte of the file's second cluster", w.content(0, 1024), 11);
+            w.file("LAST");
+            Due.is("it stays", w.content(0, 1024), 11);
+            Due.is("the first one, too", w.content(0, 0), 7);
         });
         Sentence.holds(16, "A new directory has one cluster; \".\" and \"..\" have the day of WRITTEN of the new entry at 24 (2),"
                 + " all other days and times 0.", () -> {
@@ -281,6 +334,16 @@ final class ChangeEdges {
             v.remove(0);
             v.directory("G");
             newEntry(v, 48, 3);
+        });
+        Sentence.holds(16, "Another one gets as many parts as it needs", () -> {
+            Counted v = withFile();
+            v.grow(0, 1, 0);
+            v.poke(ROOT, 12, 255);
+            v.remove(0);
+            v.file("g");
+            Due.is("a part in the slot of an entry", v.byteAt(ROOT, 0), 65);
+            Due.is("at 12 and 26", v.byteAt(ROOT, 12) + v.number(ROOT, 26, 2), 0);
+            Due.is("fault", v.fault(), 0);
         });
     }
 
@@ -529,6 +592,17 @@ final class ChangeEdges {
             Due.is("without items", v.remove(0), 0);
             Due.is("its cluster is free", v.number(TABLE, 12, 4), 0);
             Due.is("fault", v.fault(), 0);
+            // A file whose number was that of a directory with items before.
+            Counted w = withFile();
+            w.directory("D");
+            w.enter(1);
+            w.file("X");
+            w.up();
+            Due.throwsArgument("with one item", () -> w.remove(1));
+            w.remove(0);
+            w.enter(0);
+            Due.is("a file", w.remove(0), 0);
+            Due.is("items", w.items(), 0);
         });
         Sentence.holds(20, "its clusters free.", () -> {
             Counted v = empty();
@@ -575,6 +649,9 @@ final class ChangeEdges {
                 v.stamp(0, 3, 0, time);
                 Due.is("hundredths", v.byteAt(ROOT, 13), time);
             }
+            // June has a low byte that is no hour, and so have these minutes.
+            v.stamp(0, 0, 6 * 32 + 1, 6 * 32);
+            Due.is("hundredths of another MADE", v.stamp(0, 3, 0, 199), 0);
             for (int time : new int[] {200, 255, 256, -1, MIN, MAX, 65536}) {
                 Due.throwsArgument("hundredths " + time, () -> v.stamp(0, 3, 0, time));
             }
@@ -703,6 +780,9 @@ final class ChangeEdges {
             Due.is("the tape", v.end(0), 3);
             Due.is("fault", v.fault(), 0);
             Due.is("items", v.items(), 1);
+            v.poke(TABLE, 0, 0);
+            Due.throwsState("make of a volume that is not sound", () -> v.make(false));
+            Due.is("the tape", v.end(0), 0);
         });
         Sentence.holds(17, "used up by the call that reads it, whatever comes of it.", () -> {
             Counted v = new Counted(256);

@@ -70,6 +70,17 @@ final class InodeEdges {
             Due.is("none in group 0", at(u, 2, 12, 2), 0);
             Due.is("none in group 1", at(u, 2, 32 + 12, 2), 0);
         });
+        Sentence.holds(25, "20 (4) 1; 32 (4) P; 36 (4) P; 40 (4) G; 54 (2) 65535; 56 (2) 61267; 58 (2) 1; 60 (2) 1; 76 (4) 1; 84 (4) 11;"
+                + " 88 (2) 128;", () -> {
+            Counted v = volume();
+            turn(v);
+            long[][] numbers = {{20, 4, 1}, {32, 4, 128}, {36, 4, 128}, {40, 4, 8}, {54, 2, 65535}, {56, 2, 61267}, {58, 2, 1}, {60, 2, 1},
+                {76, 4, 1}, {84, 4, 11}, {88, 2, 128}, {96, 4, 2}};
+            for (long[] n : numbers) {
+                Due.is("at " + n[0], at(v, 1, (int) n[0], (int) n[1]), n[2]);
+                Due.is("in group 1 at " + n[0], at(v, 129, (int) n[0], (int) n[1]), n[2]);
+            }
+        });
         Sentence.holds(25, "90 (2) the number of the group in which it stands", () -> {
             Counted v = new Counted(1024);
             v.format(2, 8, 2, 0);
@@ -170,6 +181,23 @@ final class InodeEdges {
             Due.is("all others of group 1", at(v, 2, 32 + 16, 2), 5);
             Due.is("inode 16, the last one", ofInode(v, 16, 0, 2), 16877);
             Due.is("inode 9, the first of group 1", ofInode(v, 9, 0, 2), 0);
+            // Eight groups of 8 inodes: those of group 1 are block 69, those of group 2 block 133.
+            Counted w = new Counted(1024);
+            w.format(2, 8, 2, 0);
+            for (int i = 1; i <= 6; i++) {
+                w.directory("D" + i);
+                w.stamp(i - 1, 2, 32 + i, 0);
+            }
+            Due.is("run", w.run(0, 64), 0);
+            Due.is("directories", w.number(4, 16, 2) + " " + w.number(4, 48, 2) + " " + w.number(4, 80, 2) + " " + w.number(4, 112, 2), "1 5 1 0");
+            Due.is("inode 16, the last of group 1", at(w, 69, 7 * 128, 2), 16877);
+            Due.is("inode 17, the first of group 2", at(w, 133, 0, 2), 16877);
+            for (int i = 1; i <= 6; i++) {
+                Due.is("WRITTEN of item " + i, w.about(i - 1, 4), 315532800L + 86400 * (i - 1));
+            }
+            Due.is("enter the first of group 2", w.enter(5), 0);
+            Due.is("up", w.up(), true);
+            Due.is("enter the last of group 1", w.enter(4), 0);
         });
         Sentence.holds(25, "in group 0 from block A / 2 on, in others behind the descriptors' copy.", () -> {
             Counted v = new Counted(400);
@@ -280,7 +308,7 @@ final class InodeEdges {
         });
         Sentence.holds(25, "12 to its first blocks, one to an INDIRECT block (256 pointers), one to a DOUBLY indirect one"
                 + " (256 pointers to indirect ones), 0; pointers behind its last block are 0.", () -> {
-            int[] blocks = {0, 1, 12, 13, 268, 269};
+            int[] blocks = {0, 1, 12, 13, 268, 269, 300};
             for (int count : blocks) {
                 Counted v = fileOf(1024 * count);
                 for (int i : new int[] {0, 1, 11}) {
@@ -301,12 +329,30 @@ final class InodeEdges {
                     Due.is("one of the doubly indirect", one != 0, true);
                     Due.is("no other", at(v, (int) twice, 4, 4), 0);
                     Due.is("its first", at(v, one, 0, 4) != 0, true);
-                    Due.is("no other", at(v, one, 4, 4) + at(v, one, 1020, 4), 0);
+                    Due.is("its last", at(v, one, 4 * (count - 269), 4) != 0, true);
+                    Due.is("no other", at(v, one, 4 * (count - 268), 4) + at(v, one, 1020, 4), 0);
                 }
                 Due.is("the last byte", v.content(0, 1024 * count - 1),
                         count == 0 ? -1 : (1024 * count - 1) * (1024 * count - 1) + (1024 * count - 1 >> 8) & 255);
                 Due.is("none behind", v.content(0, 1024 * count), -1);
             }
+        });
+        Sentence.holds(25, "pointers behind its last block are 0.", () -> {
+            // What another file has there is not taken over: F has 16 blocks, G 14, H two.
+            Counted v = volume();
+            int[] sizes = {16 * 1024, 14 * 1024, 2 * 1024};
+            for (int i = 0; i < 3; i++) {
+                v.file("F" + i);
+                v.grow(i, sizes[i], i);
+            }
+            turn(v);
+            int indirect = (int) ofInode(v, 13, 88, 4);
+            Due.is("the 14th of 14", at(v, indirect, 4, 4) != 0, true);
+            Due.is("the 15th of 14", at(v, indirect, 8, 4), 0);
+            Due.is("the 16th of 14", at(v, indirect, 12, 4), 0);
+            Due.is("the second of two", ofInode(v, 14, 44, 4) != 0, true);
+            Due.is("the third of two", ofInode(v, 14, 48, 4), 0);
+            Due.is("the 12th of two", ofInode(v, 14, 84, 4), 0);
         });
     }
 
@@ -440,6 +486,14 @@ final class InodeEdges {
             Due.is("the third name is as long as what is left", at(over, 16, 24 + 512 + 4, 2), 1024 - 24 - 512);
             Due.is("the fourth one, too", at(over, 17, 4, 2), 1024);
             Due.is("its inode", at(over, 17, 0, 4), 16);
+            // Three in the first block, four that fill the second one, then a third block.
+            Counted seven = named(false, 82, 82, 82, 82, 82, 82, 82);
+            Due.is("two full blocks", seven.about(0, 5), 2048);
+            Due.is("items", seven.enter(0), 7);
+            Counted eight = named(false, 82, 82, 82, 82, 82, 82, 82, 1);
+            Due.is("one more needs a third one", eight.about(0, 5), 3072);
+            Due.is("items", eight.enter(0), 8);
+            Due.is("the last one", eight.letter(7, 0), 0xe4);
         });
         Sentence.holds(25, "then its items in order, in the root at last \".turned\", the record", () -> {
             // 24 bytes of . and .., three times 256, 216, then 16 for the record.
@@ -478,6 +532,19 @@ final class InodeEdges {
             }
             for (int at : new int[] {2048, 2052, 2559, 2560, 3071}) {
                 Due.is("sector 7, and 0, at " + at, v.content(0, at), 0);
+            }
+            // What stood in free clusters is not taken for sector 2 or 7, neither in the record nor behind the way back.
+            Counted w = volume();
+            for (int sector = 14; sector < 130; sector++) {
+                w.poke(sector, 100, 77);
+            }
+            turn(w);
+            for (int sector = 0; sector < 6; sector++) {
+                Due.is("kept sector " + sector, w.content(0, 512 * sector + 100), 0);
+            }
+            w.run(1, 128);
+            for (int sector = 2; sector < 8; sector++) {
+                Due.is("sector " + sector, w.byteAt(sector, 100), 0);
             }
         });
         Sentence.holds(13, "the blocks 3 .. A / 2 - 1 where they are, and the clusters of all directories, by items, by chain, all their blocks,"
@@ -539,6 +606,11 @@ final class InodeEdges {
                 v.poke(2 * block + 1, 1, 98);
                 v.poke(2 * block + 1, 511, 97);
             }
+            for (int sector = 3; sector <= 5; sector++) {
+                v.poke(sector, 1, 96);
+                v.poke(sector, 500, 95);
+                v.poke(sector, 511, 94);
+            }
             v.file("F");
             turn(v);
             int[] zero = {1, 2, 8, 12, 13, 129, 130, 133};
@@ -554,6 +626,24 @@ final class InodeEdges {
             }
             for (int at : new int[] {2, 20, 24, 32, 36, 100, 104, 120}) {
                 Due.is("inode 11 at " + at, ofInode(v, 11, at, 2), 0);
+            }
+        });
+        Sentence.holds(25, "All other bytes of what is BUILT", () -> {
+            // A long name in the root, none in D: what is behind the entries of D is 0, not the root's.
+            Counted v = volume();
+            v.file("\u4e2d".repeat(82));
+            v.directory("D");
+            turn(v);
+            // Blocks 9 and 10 are the directories' clusters, 11 to 13 the record's, 14 the root's, 15 that of D.
+            Due.is("the root's", at(v, 14, 24 + 8, 1), 0xe4);
+            for (int at = 24; at < 300; at += 4) {
+                Due.is("that of D at " + at, at(v, 15, at, 1), 0);
+            }
+            // The second block of a directory has one name, behind which it is 0, too.
+            Counted w = named(false, 82, 82, 82, 75);
+            Due.is("the last byte of its name", at(w, 17, 8 + 224, 1), 0xad);
+            for (int at = 8 + 225; at < 1024; at += 8) {
+                Due.is("behind it at " + at, at(w, 17, at, 1), 0);
             }
         });
     }

@@ -112,6 +112,19 @@ final class NameEdges {
             Due.is("13 units in one part", u.fault(), 0);
             Due.is("the entry's slot", u.textAt(ROOT, 32, 8), "THIRTE~1");
         });
+        Sentence.holds(8, "if PARTS stand directly before it", () -> {
+            Counted v = empty();
+            v.file("x");
+            // The entry once more behind itself, then an empty slot between it and its part.
+            for (int at = 0; at < 32; at++) {
+                v.poke(ROOT, 64 + at, v.byteAt(ROOT, 32 + at));
+            }
+            v.poke(ROOT, 32, 229);
+            Due.is("an empty slot between them", v.fault(), 4);
+            v.poke(ROOT, 0, 229);
+            Due.is("no part", v.fault(), 0);
+            Due.is("then its name is the short one", v.nameOf(0), "X~1");
+        });
         Sentence.holds(8, "their numbers at 0 (1) downwards to 1, 64 more in the first one", () -> {
             part(two, 0, 0, 64 + 2, 0);
             for (int wrong : new int[] {2, 64 + 1, 64 + 3, 128 + 2, 64, 64 + 128 + 2, 0, 229}) {
@@ -195,6 +208,14 @@ final class NameEdges {
             Due.is("without a 0", v.fault(), 4);
             v.pokeNumber(ROOT, 22, 2, 0);
             Due.is("256 units", v.fault(), 4);
+            v.format(2, 9, 1, 0);
+            for (int i = 0; i < 5; i++) {
+                v.file((char) ('a' + i) + "x".repeat(254));
+            }
+            Due.is("five such names", v.items(), 5);
+            Due.is("the first of the last one", v.letter(4, 0), 'e');
+            Due.is("the last of it", v.letter(4, 254), 'x');
+            Due.is("behind it", v.letter(4, 255), -1);
             Counted w = empty();
             w.file("x");
             Due.is("one unit", w.fault(), 0);
@@ -261,6 +282,8 @@ final class NameEdges {
             twice("name+1", "name+", false);
             twice("ABC", "abc", true);
             twice("abc", "ABC", true);
+            twice("x".repeat(255), "X".repeat(255), true);
+            twice("x".repeat(254), "X".repeat(255), false);
         });
         Sentence.holds(8, "No two names of a directory are alike, no two short names (11 bytes) the same; labels do not count for this.", () -> {
             Counted v = empty();
@@ -277,9 +300,17 @@ final class NameEdges {
             v.poke(ROOT, 96 + 1, 'B');
             v.poke(ROOT, 64 + 13, sum("AB`~1      "));
             Due.is("the same short name", v.fault(), 5);
+            v.poke(ROOT, 96 + 11, 1);
+            Due.is("with other bits", v.fault(), 5);
             v.poke(ROOT, 96 + 8, 'X');
             v.poke(ROOT, 64 + 13, sum("AB`~1   X  "));
             Due.is("another byte behind the eight", v.fault(), 0);
+            Counted u = empty();
+            u.file("X");
+            u.file("long name");
+            u.file("LONGNA~2");
+            u.poke(ROOT, 96 + 7, '1');
+            Due.is("the same short name without a part", u.fault(), 5);
             Counted w = new Counted(256);
             w.text("LABEL");
             w.format(2, 9, 1, 0);

@@ -65,6 +65,21 @@ final class PlanEdges {
                 Due.is("fixed in two groups with " + i + " items", v.plan(128, 3), 2 * (4 + (i <= 5 ? 1 : 2)));
                 Due.is("fixed in one group with " + i + " items", v.plan(256, 3), 4 + (i <= 5 ? 2 : 3));
             }
+            for (int i = 7; i <= 45; i++) {
+                v.file("F" + i);
+            }
+            Due.is("inodes for 45 items", v.plan(256, 2), 56);
+            Due.is("fixed in one group with 45 items", v.plan(256, 3), 4 + 7);
+            // The root has the clusters 2 and 3; 11 is block 15, the first one behind the inodes.
+            Due.is("target of 2", v.target(256, 2), 11);
+            Due.is("target of 3", v.target(256, 3), 12);
+            Due.is("run", v.run(0, 256), 0);
+            // Inodes are the blocks 8 to 14: number 56 is the last one.
+            Due.is("the last inode", v.number(2 * 14 + 1, 384, 2), 33188);
+            Due.is("the last item", v.nameOf(44), "F45");
+            Due.is("its size", v.about(44, 5), 0);
+            Due.is("back", v.run(1, 256), 0);
+            Due.is("items", v.items(), 45);
         });
     }
 
@@ -139,6 +154,18 @@ final class PlanEdges {
             Due.is("the record's three", pointer(v, 69, 2, 40) + " " + pointer(v, 69, 2, 44) + " " + pointer(v, 69, 2, 48), "70 71 72");
             Due.is("the root's", pointer(v, 7, 1, 40), 81);
             Due.is("the file's indirect one", pointer(v, 69, 3, 88), 82);
+        });
+        Sentence.holds(25, "What is built gets the lowest blocks of free clusters that are not fixed", () -> {
+            // C = 8, A = 10, and the root is cluster 4: of the free cluster 2 the block 8 alone is not fixed.
+            Counted v = new Counted(300);
+            v.format(8, 9, 1, 0);
+            v.poke(0, 44, 4);
+            v.pokeNumber(9, 4 * 2, 4, 0);
+            v.pokeNumber(9, 4 * 4, 4, 268435455);
+            Due.is("nothing moves", v.plan(64, 4), 0);
+            Due.is("run", v.run(0, 64), 0);
+            Due.is("the record's three", pointer(v, 69, 2, 40) + " " + pointer(v, 69, 2, 44) + " " + pointer(v, 69, 2, 48), "8 9 10");
+            Due.is("the root's", pointer(v, 7, 1, 40), 11);
         });
         Sentence.holds(25, "the record's three, then its indirect blocks; for each directory by items its blocks, then its indirect blocks;"
                 + " for each file by items its indirect blocks.", () -> {
@@ -396,6 +423,10 @@ final class PlanEdges {
             Due.is("READ a day later", v.plan(128, 0), 14);
             v.stamp(0, 1, 0, 0);
             Due.is("none", v.plan(128, 0), 0);
+            v.stamp(0, 0, 33, 0);
+            v.stamp(0, 1, 33, 0);
+            v.stamp(0, 2, day, time + 1);
+            Due.is("WRITTEN alone", v.plan(128, 0), 14);
             Counted w = new Counted(400);
             w.text("LABEL");
             w.format(2, 8, 2, 0);
@@ -404,6 +435,19 @@ final class PlanEdges {
             Due.is("the label has another day", w.fault(), 0);
             Due.is("but no inode", w.plan(128, 0), 0);
         });
+    }
+
+    /** A volume whose last free block is used: it can be turned, and back. */
+    private static void full(Counted v, int p, int clusters) {
+        int last = v.content(0, 1024 * clusters - 1);
+        Due.is("a full one", v.plan(p, 0) + 10 * v.plan(p, 6), 0);
+        Due.is("run", v.run(0, p), 0);
+        Due.is("block 0 stays", v.number(0, 510, 2) + v.number(0, 11, 2) + v.byteAt(1, 511), 43605 + 512 + 0xaa);
+        Due.is("the last byte", v.content(0, 1024 * clusters - 1), last);
+        Due.is("no free block", v.number(2, 12, 4), 0);
+        Due.is("back", v.run(1, p), 0);
+        Due.is("fault", v.fault(), 0);
+        Due.is("the last byte", v.content(0, 1024 * clusters - 1), last);
     }
 
     private static void roomRefused() {
@@ -420,7 +464,16 @@ final class PlanEdges {
             Due.is("8 free clusters", withClusters(185).plan(128, 0), 15);
             Due.is("7 free clusters", withClusters(186).plan(128, 0), 15);
             Due.is("no free cluster", withClusters(193).plan(128, 0), 15);
-            Due.is("13 free clusters", withClusters(180).run(0, 128), 0);
+            full(withClusters(180), 128, 180);
+            // 1024 sectors: eight clusters move, built are 3 + 1 + 3 blocks, so that 488 of 503 clusters may be the file's.
+            Counted w = volume(1024);
+            w.file("F");
+            w.grow(0, 400000, 1);
+            w.grow(0, 488 * 1024 - 400000, 1);
+            w.grow(0, 1, 1);
+            Due.is("14 free clusters", w.plan(256, 0), 15);
+            w.cut(0, 488 * 1024);
+            full(w, 256, 488);
         });
         Sentence.holds(22, "15 there are not enough free clusters", () -> {
             // C = 8: blocks enough in free clusters that have fixed ones, but these are no goals.
@@ -458,6 +511,36 @@ final class PlanEdges {
             Due.is("nothing is changed", v.kind() + v.fault(), 1);
             Due.is("the run is as planned", v.run(0, 128), 0);
             Due.is("free blocks", v.number(2, 12, 4), 181);
+        });
+        Sentence.holds(22, "Of the plan for groups of P blocks, of a table volume", () -> {
+            // A plan is not changed by what was planned before it, with another P or another file.
+            Counted v = volume(1024);
+            Counted w = volume(1024);
+            v.file("F");
+            w.file("F");
+            v.grow(0, 30 * 1024, 0);
+            for (int p : new int[] {64, 128, 256}) {
+                Due.is("refusal", v.plan(p, 0), 0);
+            }
+            v.cut(0, 20 * 1024);
+            w.grow(0, 20 * 1024, 0);
+            for (int p : new int[] {256, 64, 128}) {
+                for (int what = 0; what <= 6; what++) {
+                    Due.is("plan(" + p + ", " + what + ")", v.plan(p, what), w.plan(p, what));
+                }
+            }
+            int[] due = {0, 2, 8, 10, 3, 5, 511 - 10 - 9 - 1 - 20 - 1};
+            for (int what = 0; what <= 6; what++) {
+                Due.is("plan(256, " + what + ")", v.plan(256, what), due[what]);
+            }
+            // F loses its last clusters, which are far behind the lowest free ones.
+            v.file("G");
+            v.grow(1, 40 * 1024, 0);
+            v.grow(0, 10 * 1024, 0);
+            v.remove(1);
+            Due.is("free with 30 blocks", v.plan(256, 6), due[6] - 10);
+            v.cut(0, 20 * 1024);
+            Due.is("free with 20 blocks", v.plan(256, 6), due[6]);
         });
         Sentence.holds(22, "NONE for 1 .. 6 with a refusal, for another what, and if there is no table volume.", () -> {
             Counted v = volume(400);

@@ -282,6 +282,41 @@ final class RunEdges {
             Due.is("kept: sectors 1, 3, 4, 5", u.byteAt(1, 300) + " " + u.byteAt(3, 7) + " " + u.byteAt(4, 8) + " " + u.byteAt(5, 511), "11 12 13 14");
             Due.is("sectors 2 and 7 are 0 again", u.number(2, 56, 2) + u.number(7, 0, 4), 0);
         });
+        Sentence.holds(25, "Back: an inode volume becomes the table volume from which it came", () -> {
+            // It can be changed as before: the root and D have moved, and are where they were.
+            Counted v = volume();
+            v.run(FINISH, 64);
+            v.run(BACK, 64);
+            v.stamp(0, 4, 0, 1);
+            Due.is("read only", v.about(0, 1), 1);
+            Due.is("in the root's slot 2", v.byteAt(10, 64 + 11), 33);
+            Due.is("a new file", v.file("NEW"), 2);
+            Due.is("in the root's slot 4", v.textAt(10, 128, 3), "NEW");
+            Due.is("items", v.items(), 3);
+            v.enter(1);
+            v.remove(1);
+            Due.is("items of D", v.items(), 1);
+            Due.is("fault", v.fault(), 0);
+        });
+        Sentence.holds(25, "FIXED blocks are those of all superblocks, descriptors, maps, inodes.", () -> {
+            // C = 8, A = 10, three groups, of which the last one has 13 blocks: the clusters 33 and 34 of 2 .. 35 move.
+            Counted v = new Counted(284);
+            Due.is("clusters", v.format(8, 9, 1, 0), 34);
+            v.file("A");
+            v.grow(0, 14 * 4096, 0);
+            v.file("B");
+            v.grow(1, 19 * 4096, 3);
+            v.cut(0, 1);
+            Due.is("33 moves", v.target(64, 33) > 0, true);
+            Due.is("34 moves", v.target(64, 34) > 0, true);
+            Due.is("35 does not", v.target(64, 35), 0);
+            for (int way = 0; way < 3; way++) {
+                for (int at = 0; at < 19 * 4096; at += 1021) {
+                    Due.is("byte " + at, v.content(1, at), (int) ((3 + (long) at * at + (at >> 8)) % 256));
+                }
+                Due.is("run", v.run(way % 2, 64), 0);
+            }
+        });
     }
 
     private static void cut() {

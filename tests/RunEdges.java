@@ -55,6 +55,11 @@ final class RunEdges {
         return b.toString();
     }
 
+    /** What stands in the sectors that the record keeps, and in sector 1. */
+    private static String kept(Counted v) {
+        return v.byteAt(1, 300) + " " + v.byteAt(3, 7) + " " + v.byteAt(4, 8) + " " + v.byteAt(5, 511);
+    }
+
     private static void fail() {
         Sentence.holds(24, "asked for ask, and cut behind writes writes (if it has so many): true", () -> {
             Counted v = new Counted(256);
@@ -173,6 +178,7 @@ final class RunEdges {
                 Due.is("kind", v.kind(), 1);
             }
             Due.is("the volume", print(v, 6), print(w, 6));
+            Due.is("sectors 1, 3, 4, 5", kept(v), "11 12 13 14");
             Counted u = new Counted(256);
             u.format(2, 8, 2, 0);
             u.poke(8, 0, 0);
@@ -279,7 +285,7 @@ final class RunEdges {
             Counted u = volume();
             u.run(FINISH, 64);
             u.run(BACK, 64);
-            Due.is("kept: sectors 1, 3, 4, 5", u.byteAt(1, 300) + " " + u.byteAt(3, 7) + " " + u.byteAt(4, 8) + " " + u.byteAt(5, 511), "11 12 13 14");
+            Due.is("sectors 1, 3, 4, 5", kept(u), "11 12 13 14");
             Due.is("sectors 2 and 7 are 0 again", u.number(2, 56, 2) + u.number(7, 0, 4), 0);
         });
         Sentence.holds(25, "Back: an inode volume becomes the table volume from which it came", () -> {

@@ -116,8 +116,16 @@ final class TableEdges {
 
     private static void sectorZero() {
         Sentence.holds(7, "at 11 (2) 512", () -> told(11, 2, of(512), of(0, 511, 513, 1024, 512 + 32768)));
-        Sentence.holds(7, "at 13 (1) C, 2, 4 or 8, sectors of a CLUSTER",
-                () -> told(13, 1, of(2, 4, 8), of(0, 1, 3, 5, 6, 7, 9, 10, 16, 128, 255)));
+        Sentence.holds(7, "at 13 (1) C, 2, 4 or 8, sectors of a CLUSTER", () -> {
+            told(13, 1, of(2, 4, 8), of(0, 1, 3, 5, 6, 7, 9, 10, 16, 128, 255));
+            Counted v = new Counted(256);
+            v.format(2, 9, 1, 0);
+            v.poke(0, 36, 32);
+            v.poke(0, 13, 1);
+            Due.is("1 with tables that are long enough", v.kind(), 0);
+            v.poke(0, 13, 2);
+            Due.is("2 with such tables", v.kind(), 1);
+        });
         Sentence.holds(7, "at 14 (2) V, 8 to 64, sectors before the tables",
                 () -> told(14, 2, of(8, 9, 63, 64), of(0, 1, 7, 65, 128, 255, 256 + 8, 65535)));
         Sentence.holds(7, "at 16 (1) Y, 1 or 2, TABLES", () -> told(16, 1, of(1, 2), of(0, 3, 4, 129, 255)));
